@@ -87,7 +87,7 @@ final class HeapTextTest {
 
     private static void writer() {
         FortyReports x = new FortyReports();
-        Check.due("32 writer", Check.told(x, "patience 99; length 1 ;patience 5"), 3);
+        Check.due("32 writer", Check.told(x, "patience 1; length 1 ;patience 5"), 3);
         Check.due("32 patience, the latest", x.now(1), 5);
         Check.due("32 length", x.now(2), 1);
         Check.due("32 the greatest", Check.told(x, "length 99"), 1);
@@ -97,7 +97,6 @@ final class HeapTextTest {
     private static void faults() {
         fault("|");
         fault("   |");
-        fault("|");
         fault("|;");
         fault("|5");
         fault("line|");
@@ -121,6 +120,9 @@ final class HeapTextTest {
         fault("line work 5 5; |work");
         fault("line work 5 5 |line work 5 5");
         fault("|linework 5 5");
+        fault("|linez work 5 5");
+        fault("line work|{5 5");
+        fault("line work|`5 5");
         fault("|Line work 5 5");
         fault("line work |-1 5");
         fault("line work 1|,5");
