@@ -4,6 +4,7 @@ final class PlansEdgesTest {
         planOfUpToSix();
         digitsBelow12ToTheN();
         planAsksWhoIsThere();
+        planFromTheHighestPlaceOn();
         planIsAsItIsNow();
         orderAsksForItsFindingsInOrder();
         orderOfNoneToFive();
@@ -72,6 +73,35 @@ final class PlansEdgesTest {
         Twins.taken("24 0 ahead is child 0", Scenes::three, x -> x.plan(1, 2));
     }
 
+    private static void planFromTheHighestPlaceOn() {
+        // of each child another line says something, and the writer can tell of one child alone
+        FortyReports x = new FortyReports();
+        for (int i = 0; i < 12; i++) {
+            x.child(i % 10, i / 10, 0, 0);
+            x.line(Check.LINE, 0, i % 10, 9, 1);
+        }
+        x.writer(1, 1);
+        int[] alone = new int[12];
+        for (int i = 0; i < 12; i++) {
+            for (int line = 0; line < 12; line++) {
+                x.put(i, line, true);
+            }
+            alone[i] = x.plan(i, 1);
+            Check.due("24 the last place, child " + i, alone[i], x.order(1 << i, -1));
+        }
+        for (int i = 0; i < 12; i++) {
+            int j = (i + 5) % 12;
+            Check.due("24 the first of two, " + i, x.plan(i * 12 + j, 2), alone[i]);
+            int digits = i;
+            for (int k = 1; k < 6; k++) {
+                digits = digits * 12 + (i + k) % 12;
+            }
+            Check.due("24 the first of six, " + i, x.plan(digits, 6), alone[i]);
+        }
+        Check.due("24 of the first child line 0 alone: nothing", alone[0], 0);
+        Check.due("24 of child 9 the six that say most", alone[9], 11 + 10 + 9 + 8 + 7 + 6);
+    }
+
     private static void planIsAsItIsNow() {
         // the first report makes the writer too tired for the second one
         FortyReports x = Check.withChildren(3);
@@ -86,6 +116,19 @@ final class PlansEdgesTest {
         Check.due("24 tired 20", x.plan(1, 2), 0);
         x.writer(0, 0);
         Check.due("24 nobody is more tired than before", x.plan(1, 2), 2);
+        // line 0 is copied by 0 from 2, and by 1 from 0; the report of 0 is none while it is written
+        FortyReports z = Check.withChildren(3);
+        z.line(Check.COPIED, 0, 0, 0, 1);
+        z.set(0, 6, 2);
+        z.set(1, 6, 0);
+        z.put(2, 0, true);
+        z.put(0, 0, true);
+        Check.due("24 the own one is none meanwhile", z.plan(0, 1), 2);
+        Check.due("24 then it is what was written", z.plan(1, 2), 2 + 1);
+        Check.due("24 and as it is now ahead of that", z.plan(12, 2), 1 + 2);
+        z.tear(4);
+        Check.due("24 none is left of it", z.plan(1, 2), 0);
+        Check.due("24 but it could be copied first", z.plan(12, 2), 2);
         Twins.taken("24 asks only", Scenes::full, y -> y.plan((11 * 12 + 10) * 12 + 3, 3));
         Twins.leaveTheSame("24 asks only", Scenes::full, y -> y.plan((11 * 12 + 10) * 12 + 3, 3), y -> 0);
     }
@@ -149,6 +192,14 @@ final class PlansEdgesTest {
         }
         Check.due("25 says 3", x.order(15, -1), 3);
         Check.due("25 others say 1", x.order(7, -1), 1);
+        // each order begins with reports as they are now: 1 can copy from 0 as long as 0 isn't written
+        FortyReports y = Check.withChildren(2);
+        y.line(Check.COPIED, 0, 0, 0, 1);
+        y.set(1, 6, 0);
+        y.put(0, 0, true);
+        Check.due("25 copied in time", y.order(3, -1), 1);
+        Check.due("25 who copies first", y.order(3, 0), 1);
+        Check.due("25 and then who is copied", y.order(3, 1), 0);
     }
 
     private static void heapOfNobodyAndOfOne() {
@@ -250,8 +301,8 @@ final class PlansEdgesTest {
     private static void whomBy1To9() {
         Twins.range("28 n", Scenes::three, 1, 9, (x, v) -> x.whom(v));
         Twins.refused("28 no children", Scenes::none, x -> x.whom(9), Check.NONE);
-        Twins.refused("28 lines, but no children", Scenes::twelveLines, x -> x.whom(1), Check.NONE);
-        Twins.beyond("28 n is asked ahead of none", Scenes::none, 1, 9, (x, v) -> x.whom(v));
+        Twins.refused("28 lines, but no children", Scenes::nobody, x -> x.whom(1), Check.NONE);
+        Twins.beyond("28 n is asked ahead of none", Scenes::nobody, 1, 9, (x, v) -> x.whom(v));
         Twins.asks("28 asks only", Scenes::three, x -> x.whom(1), 0);
     }
 

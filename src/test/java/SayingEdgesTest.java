@@ -100,7 +100,7 @@ final class SayingEdgesTest {
 
     private static void plainestOfSeveral() {
         Twins.refused("22 no children", Scenes::none, x -> x.plainest(), Check.NONE);
-        Twins.refused("22 lines, but no children", Scenes::twelveLines, x -> x.plainest(), Check.NONE);
+        Twins.refused("22 lines, but no children", Scenes::nobody, x -> x.plainest(), Check.NONE);
         Twins.asks("22 one child", x -> x.child(0, 0, 0, 0), x -> x.plainest(), 0);
         Twins.asks("22 none has bits", Scenes::twelveChildren, x -> x.plainest(), 0);
         for (int child = 0; child < 12; child++) {

@@ -63,6 +63,20 @@ final class Scenes {
         tape(x, text.append(";length 31").toString());
     }
 
+    /** As three, but without children. */
+    static void nobody(FortyReports x) {
+        twelveLines(x);
+        x.writer(0, 9);
+        x.years(2);
+        x.image();
+        x.writer(2, 70);
+        x.sheet(0, 8, 3);
+        x.write(0, 2, -7L);
+        x.sheet(1, 16, 40);
+        x.write(1, 0, 300L);
+        tape(x, "child 1 2 3 4 seen 6 girl;length 50");
+    }
+
     static void twelveChildren(FortyReports x) {
         for (int i = 0; i < 12; i++) {
             x.child(i % 10, i / 10, 0, 0);

@@ -161,6 +161,9 @@ final class SheetsEdgesTest {
         Twins.refused("35 kind ahead of from", Scenes::three, x -> x.copy(0, -1, 1, 0, 1), Check.KIND);
         Twins.refused("35 kind ahead of to", Scenes::three, x -> x.copy(0, 0, 1, 41, 1), Check.KIND);
         Twins.refused("35 kind ahead of n", Scenes::three, x -> x.copy(0, 0, 1, 0, -1), Check.KIND);
+        Twins.range("35 from", Scenes::three, 0, 2, (x, v) -> x.copy(0, v, 0, 0, 1));
+        Twins.range("35 to", Scenes::three, 0, 39, (x, v) -> x.copy(1, 0, 1, v, 1));
+        Twins.range("35 n", Scenes::three, 0, 40, (x, v) -> x.copy(1, 0, 1, 0, v));
         for (int s = 0; s < 3; s++) {
             for (int t = 0; t < 3; t++) {
                 int from = s;

@@ -229,6 +229,27 @@ final class WriterEdgesTest {
         Check.due("12 the brother's brother doesn't matter", x.report(0), 1);
         Check.due("12 nor does the own one", x.report(1), 0);
         Check.due("12 until it does", x.report(0), 0);
+        ownIsNoneMeanwhile();
+    }
+
+    private static void ownIsNoneMeanwhile() {
+        // as it stands line 0 says 1 and line 1 says 1, too; while 0 is written line 0 says 2, as 1 can't copy then
+        FortyReports x = Check.withChildren(3);
+        x.line(Check.SEEN, 0, 0, 0, 1);
+        x.line(Check.COPIED, 0, 0, 0, 1);
+        x.set(2, 0, 9);
+        x.set(0, 6, 2);
+        x.set(1, 6, 0);
+        x.put(2, 1, true);
+        x.put(0, 1, true);
+        x.writer(2, 1);
+        Check.due("12 as it stands", x.lineOf(1, 5), 1);
+        Check.due("12 it is worth 20", x.lineOf(1, 6), 20);
+        Check.due("12 the other 16", x.lineOf(0, 6), 16);
+        x.years(5);
+        Check.due("12 then 10", x.lineOf(1, 6), 10);
+        Check.due("12 one of both", x.report(0), 1);
+        Check.due("12 while it is written: 30", x.of(0, 7), 2);
     }
 
     private static void restDownTo0() {
