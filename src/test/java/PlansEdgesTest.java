@@ -164,6 +164,10 @@ final class PlansEdgesTest {
             }
         }
         Twins.asks("25 nobody says nothing", Scenes::full, x -> x.order(0, -1), 0);
+        for (int i = 0; i < 5; i++) {
+            int place = i;
+            Twins.asks("25 none says anything: by numbers", Scenes::twelveChildren, x -> x.order(31 << 7, place), 7 + i);
+        }
         Twins.asks("25 one alone", Scenes::full, x -> x.order(2048, 0), 11);
         Twins.leaveTheSame("25 asks only", Scenes::full, x -> x.order(31 << 7, -1), x -> 0);
         FortyReports x = Twins.built(Scenes::full);
@@ -350,6 +354,15 @@ final class PlansEdgesTest {
             x.set(0, 5, 1);
             Check.due("29 fewer", x.lean(0), -Math.min(6, n));
         }
+        FortyReports both = Check.withChildren(1);
+        both.line(Check.LEANED, 0, 0, 0, 1);
+        both.line(Check.LEANED, 0, 1, 1, 1);
+        both.line(Check.LEANED, 0, 3, 3, 1);
+        Check.due("29 two for one", both.lean(0), 1);
+        both.set(0, 5, 1);
+        Check.due("29 one for two", both.lean(0), -1);
+        both.turn(2, Check.LEFT);
+        Check.due("29 one for one", both.lean(0), 0);
         FortyReports x = Check.withChildren(1);
         x.line(Check.LINE, 0, 0, 0, 1);
         x.line(Check.LEANED, 0, 1, 1, 1);
