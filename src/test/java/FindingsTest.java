@@ -1,10 +1,22 @@
+import java.lang.reflect.Method;
+import java.lang.reflect.Modifier;
+import java.util.Arrays;
+import java.util.Random;
+
 /** What the document's first lines and its terms tell of all calls: the findings, and 512 calls. */
 final class FindingsTest {
+    /** In an order of their own, as reflection tells them in none. */
+    private static final Method[] CALLS = Arrays.stream(FortyReports.class.getDeclaredMethods())
+        .filter(method -> Modifier.isPublic(method.getModifiers()))
+        .sorted((one, other) -> one.getName().compareTo(other.getName()))
+        .toArray(Method[]::new);
+
     public static void main(String[] args) {
         findingsAreNumbers();
         findingsAreBelowAllAnswers();
         the512thCall();
         aFullObjectAfterManyFindings();
+        noCallThrows();
         Check.end();
     }
 
@@ -62,5 +74,36 @@ final class FindingsTest {
         Check.due("each finding alone", x.status(1), 60);
         Check.due("SIZE", x.status(6), 20);
         Check.due("still twelve", x.count(0) + x.count(1), 24);
+    }
+
+    /** Each call with arguments of all sizes, on objects of all scenes, far past the 512th call, too. */
+    private static void noCallThrows() {
+        Twins.Scene[] scenes = {Scenes::none, Scenes::three, Scenes::nobody, Scenes::full};
+        for (int seed = 0; seed < 40; seed++) {
+            Random random = new Random(seed);
+            FortyReports x = Twins.built(scenes[seed % scenes.length]);
+            for (int call = 0; call < 5000; call++) {
+                Method method = CALLS[random.nextInt(CALLS.length)];
+                Object[] row = new Object[method.getParameterCount()];
+                for (int i = 0; i < row.length; i++) {
+                    row[i] = someValue(random, method.getParameterTypes()[i]);
+                }
+                try {
+                    method.invoke(x, row);
+                } catch (ReflectiveOperationException thrown) {
+                    Check.fail(method.getName() + Arrays.toString(row) + ": threw " + thrown.getCause());
+                }
+            }
+        }
+    }
+
+    private static Object someValue(Random random, Class<?> type) {
+        if (type == boolean.class) {
+            return random.nextBoolean();
+        }
+        if (type == long.class) {
+            return random.nextLong() >> random.nextInt(64);
+        }
+        return random.nextInt(4) == 0 ? random.nextInt() >> random.nextInt(32) : random.nextInt(13);
     }
 }
